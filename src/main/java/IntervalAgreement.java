@@ -381,7 +381,6 @@ public final class IntervalAgreement {
         values.clearRow(0);
         for (int node = 0; node < MOST_NODES; node++) {
             strategies[node] = CORRECT;
-            amounts[node] = 0;
             lies.clearRow(node);
         }
         for (int link = 0; link < delays.length; link++) {

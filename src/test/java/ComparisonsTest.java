@@ -104,6 +104,12 @@ public final class ComparisonsTest {
         c.lie(x, 2, 1, "9");
         c.same("table", x.worstStrategy(2, 1), 1);
         x.reset(3, 0, 60);
+        x.setFaulty(2, 4, 0, 1);
+        c.input(x, 2, "90");
+        x.setLink(2, 0, -1);
+        // All are 0, but for what drifts from 90.
+        c.same("drift", x.worstStrategy(2, 1), 5);
+        x.reset(3, 0, 60);
         x.setFaulty(2, 5, 0, 1);
         c.same("all the same", x.worstStrategy(2, 10), 1);
         x.setFaulty(0, 5, 0, 1);
@@ -175,14 +181,17 @@ public final class ComparisonsTest {
         c.lie(x, 3, 2, "10");
         // Midpoint: 6 for all; mean: 25/4 and more; median: 13/2, 23/2, 11.
         c.same("midpoint", x.bestRule(1), 1);
-        x.reset(7, 2, 60);
-        x.setRule(1);
-        c.input(x, 0, "5");
-        c.input(x, 1, "9");
-        c.input(x, 2, "9");
-        c.input(x, 3, "9");
-        x.setFaulty(6, 1, 0, 1);
-        c.same("mean", x.bestRule(1), 0);
+        x.reset(8, 2, 60);
+        String[] inputs = {"12", "6", "12", "6", "0", "0", "0"};
+        for (int node = 0; node < inputs.length; node++) {
+            c.input(x, node, inputs[node]);
+        }
+        x.setFaulty(7, 1, 0, 1);
+        c.lie(x, 7, 3, "12");
+        x.setLink(1, 2, -1);
+        // Left are 0, 0, 6 for node 2, 0, 6, 6, 12 for node 3 and 0, 0, 6, 6 for the others.
+        // Mean: 2, 6, 3; midpoint: 3, 6, 3; median: 0, 6, 3; select: 3 for all.
+        c.same("select", x.bestRule(1), 3);
     }
 
     private static void bestRuleRefuses(Check c) {

@@ -4,6 +4,7 @@ public final class ConvergenceTest {
         Check c = new Check("ConvergenceTest");
         widths(c);
         rates(c);
+        rateOfOneUnitAndOfNone(c);
         rateAboveOne(c);
         guarantees(c);
         guaranteeOfSelect(c);
@@ -60,6 +61,23 @@ public final class ConvergenceTest {
         x.run(2);
         c.rate(x, 1, 3, 7);
         c.rate(x, 2, 0, 1);
+        c.rate(x, 3, Check.NO_VALUE, Check.NO_VALUE);
+    }
+
+    private static void rateOfOneUnitAndOfNone(Check c) {
+        IntervalAgreement x = Check.fresh(3, 0, 60);
+        c.input(x, 1, "1/60");
+        x.setFaulty(2, 1, 0, 1);
+        c.lie(x, 2, 1, "1/20");
+        x.run(1);
+        // 1 / 3 and 4 / 3 units, rounded down.
+        c.rate(x, 1, 1, 1);
+        c.lie(x, 2, 1, "0");
+        x.run(1);
+        c.rate(x, 2, 0, 1);
+        c.lie(x, 2, 1, "5");
+        x.run(1);
+        c.width(x, 3, 5, 3);
         c.rate(x, 3, Check.NO_VALUE, Check.NO_VALUE);
     }
 
@@ -211,6 +229,17 @@ public final class ConvergenceTest {
         x.reset(2, 0, 60);
         x.setFaulty(0, 2, 1, 1);
         c.same("node 1 alone", x.outside(), 0);
+        x.run(1);
+        c.same("node 1 outside", x.outside(), 2);
+        x.reset(3, 0, 60);
+        c.input(x, 0, "-9..1");
+        c.input(x, 1, "2..30");
+        c.input(x, 2, "3..4");
+        c.same("different inputs", x.outside(), 0);
+        x.run(1);
+        c.same("different inputs, later", x.outside(), 0);
+        x.reset(2, 0, 60);
+        x.setFaulty(0, 2, 1, 1);
         x.run(1);
         c.same("node 1 outside", x.outside(), 2);
         x.reset(2, 0, 60);
