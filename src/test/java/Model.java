@@ -306,7 +306,6 @@ final class Model {
 
     int count(int what) {
         int links = 0;
-        int free = 0;
         int faulty = 0;
         for (int p = 0; p < n; p++) {
             faulty += strategies[p] != 0 ? 1 : 0;
@@ -316,7 +315,7 @@ final class Model {
         }
         int[] answers = {n, t, g, r(), faulty, rule, links,
             (int) correctValues(r()).stream().distinct().count()};
-        return what < free || what > 7 ? Check.BAD_VALUE : answers[what];
+        return what < 0 || what > 7 ? Check.BAD_VALUE : answers[what];
     }
 
     int strategy(int node) {
