@@ -359,11 +359,11 @@ public final class IntervalAgreement {
         }
         int own = ruleNumber;
         int best = MEAN;
-        long least = Long.MAX_VALUE;
+        long least = 0;
         for (int tried = MEAN; tried <= SELECT; tried++) {
             ruleNumber = tried;
             long reached = widthInFuture(rounds);
-            if (reached < least) {
+            if (tried == MEAN || reached < least) {
                 least = reached;
                 best = tried;
             }

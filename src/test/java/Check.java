@@ -1,3 +1,5 @@
+import java.util.function.IntToLongFunction;
+
 /** What the tests share: comparing answers, typing texts, and the report at the end. */
 final class Check {
     static final int UNKNOWN = -1001;
@@ -8,6 +10,7 @@ final class Check {
     static final long NO_VALUE = Long.MIN_VALUE;
 
     private final String name;
+    private String sentence = "";
     private int compared;
     private int wrong;
 
@@ -15,16 +18,44 @@ final class Check {
         this.name = name;
     }
 
+    /** Names the sentence of the document that the next comparisons are about. */
+    void about(String words) {
+        sentence = words.isEmpty() ? "" : " [" + words + "]";
+    }
+
+    int compared() {
+        return compared;
+    }
+
     void same(String what, long got, long due) {
         compared++;
         if (got != due) {
             wrong++;
-            System.out.println(name + ": " + what + " answered " + got + ", due is " + due);
+            System.out.println(name + sentence + ": " + what + " answered " + got + ", due is "
+                    + due);
         }
     }
 
     void holds(String what, boolean isTrue) {
         same(what, isTrue ? 1 : 0, 1);
+    }
+
+    /**
+     * From least to greatest the answer is what is due, beyond them it is that of a refused call. An
+     * answer must not change with those before it: a call that changes something needs a new object.
+     */
+    void range(String call, int least, int greatest, long refused, IntToLongFunction answer,
+            IntToLongFunction due) {
+        int[] taken = {least, Math.min(least + 1, greatest), Math.max(least, greatest - 1), greatest};
+        for (int argument : taken) {
+            same(call + " with " + argument, answer.applyAsLong(argument),
+                    due.applyAsLong(argument));
+        }
+        int[] beyond = {least - 1, greatest + 1, least - 65536, greatest + 65536, Integer.MIN_VALUE,
+            Integer.MAX_VALUE};
+        for (int argument : beyond) {
+            same(call + " with " + argument, answer.applyAsLong(argument), refused);
+        }
     }
 
     void value(IntervalAgreement x, int node, int round, long numerator, long denominator) {
@@ -37,6 +68,12 @@ final class Check {
         String what = "value(" + node + ", " + round + ", " + high + ", ";
         same(what + "false)", x.value(node, round, high, false), numerator);
         same(what + "true)", x.value(node, round, high, true), denominator);
+    }
+
+    void inputEnd(IntervalAgreement x, int node, boolean high, long numerator, long denominator) {
+        String what = "input(" + node + ", " + high + ", ";
+        same(what + "false)", x.input(node, high, false), numerator);
+        same(what + "true)", x.input(node, high, true), denominator);
     }
 
     void received(IntervalAgreement x, int receiver, int sender, boolean high, long numerator,
@@ -68,6 +105,11 @@ final class Check {
         same("guarantee(true) " + when, x.guarantee(true), denominator);
     }
 
+    void hull(IntervalAgreement x, boolean high, long numerator, long denominator) {
+        same("hull(" + high + ", false)", x.hull(high, false), numerator);
+        same("hull(" + high + ", true)", x.hull(high, true), denominator);
+    }
+
     static void type(IntervalAgreement x, String text) {
         x.clearText();
         for (int i = 0; i < text.length(); i++) {
@@ -88,6 +130,16 @@ final class Check {
     static IntervalAgreement fresh(int nodes, int trim, int grid) {
         IntervalAgreement x = new IntervalAgreement();
         x.reset(nodes, trim, grid);
+        return x;
+    }
+
+    /** As many nodes as inputs, which they have read; the text is empty again. */
+    IntervalAgreement nodes(int trim, int grid, String... inputs) {
+        IntervalAgreement x = fresh(inputs.length, trim, grid);
+        for (int node = 0; node < inputs.length; node++) {
+            input(x, node, inputs[node]);
+        }
+        x.clearText();
         return x;
     }
 

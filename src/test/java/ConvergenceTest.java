@@ -181,10 +181,8 @@ public final class ConvergenceTest {
 
     private static void hull(Check c, IntervalAgreement x, long low, long lowDenominator, long high,
             long highDenominator) {
-        c.same("hull's low", x.hull(false, false), low);
-        c.same("hull's low denominator", x.hull(false, true), lowDenominator);
-        c.same("hull's high", x.hull(true, false), high);
-        c.same("hull's high denominator", x.hull(true, true), highDenominator);
+        c.hull(x, false, low, lowDenominator);
+        c.hull(x, true, high, highDenominator);
     }
 
     private static void hulls(Check c) {

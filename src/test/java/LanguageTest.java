@@ -10,7 +10,7 @@ public final class LanguageTest {
         "\\bthrow\\b", "\\bthrows\\b", "\\btry\\b", "\\bcatch\\b", "\\bsynchronized\\b",
         "\\bassert\\b", "\\bpackage\\b", "->", "::", "\\bprotected\\b", "\\bequals\\b",
         "\\bhashCode\\b", "\\btoString\\b", "Exact\\b", "\\bSystem\\.(?!arraycopy)",
-        "\\bRandom\\b", "\\bThread\\b",
+        "\\bRandom\\b", "\\bThread\\b", "\\b(Integer|Long)\\.(?!MIN_VALUE\\b)[A-Z]",
     };
     private static final int LONGEST_METHOD = 60;
 

@@ -29,7 +29,7 @@ public final class TextTest {
         c.same("clearText at last", x.clearText(), 3);
     }
 
-    private static void read(Check c, int grid, String text, long low, long lowDenominator,
+    static void read(Check c, int grid, String text, long low, long lowDenominator,
             long high, long highDenominator) {
         IntervalAgreement x = Check.fresh(3, 0, grid);
         c.input(x, 1, text);
@@ -62,7 +62,7 @@ public final class TextTest {
         read(c, 720720, "0..-0", 0, 1, 0, 1);
     }
 
-    private static void fault(Check c, int grid, String text, int due) {
+    static void fault(Check c, int grid, String text, int due) {
         IntervalAgreement x = Check.fresh(3, 0, grid);
         Check.type(x, text);
         c.same("readInput of " + text, x.readInput(1), -100 - due);
