@@ -91,6 +91,7 @@ final class Promises21To25 {
             c.rate(x, 4, NO_VALUE, NO_VALUE);
             c.rate(x, 5, NO_VALUE, NO_VALUE);
             c.rate(x, 6, NO_VALUE, NO_VALUE);
+            c.rate(coarse(c, 1), 2, NO_VALUE, NO_VALUE);
             IntervalAgreement grows = Check.fresh(3, 0, 60);
             grows.setFaulty(2, 2, 3, 1);
             grows.run(2);

@@ -155,7 +155,9 @@ final class WidthBoundaries {
             guarantee(c, 10, 0, MEDIAN, NO_VALUE, NO_VALUE);
             guarantee(c, 2, 1, MEAN, NO_VALUE, NO_VALUE);
             guarantee(c, 2, 3, SELECT, NO_VALUE, NO_VALUE);
-            guarantee(c, 6, 3, MIDPOINT, NO_VALUE, NO_VALUE);
+            guarantee(c, 3, 1, MEAN, NO_VALUE, NO_VALUE);
+            guarantee(c, 6, 2, SELECT, NO_VALUE, NO_VALUE);
+            guarantee(c, 9, 3, MIDPOINT, NO_VALUE, NO_VALUE);
         });
     }
 }
