@@ -56,6 +56,7 @@ public final class IntervalAgreement {
     private final long[] amounts = new long[MOST_NODES];
     /** Made once and used again by each receiver in each round. */
     private final long[] ascending = new long[MOST_NODES];
+    /** At most MOST_NODES, so that a node's number is an index of every row. */
     private int nodeCount;
     private int trimCount;
     private int gridSize;
@@ -623,7 +624,7 @@ public final class IntervalAgreement {
     private long meanOfEvery(int step, int left) {
         long sum = 0;
         long taken = 0;
-        for (int k = 0; k < left; k += step) {
+        for (int k = 0; k < left && step > 0; k += step) {
             sum += restAt(k);
             taken++;
         }
